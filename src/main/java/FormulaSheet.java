@@ -14,7 +14,7 @@ public final class FormulaSheet {
     private static final int NONE = -1;
 
     private static final long LIMIT = 1L << 50;
-    // No VALUE lies beyond LIMIT, so a number from there is free to stand for BAD.
+    // No VALUE lies beyond LIMIT: a result from there is BAD as it is, and this is one for all other BAD.
     private static final long BAD = 1L << 51;
 
     // The rules of a formula, the widest first: a part that fits one fits all those before it, too.
@@ -191,10 +191,6 @@ public final class FormulaSheet {
 
     private static boolean isBad(double number) {
         return number > LIMIT || number < -LIMIT;
-    }
-
-    private static double orBad(double result) {
-        return isBad(result) ? BAD : result;
     }
 
     /** A set of cells, held in bits so that many sets are joined fast and without new objects. */
@@ -919,13 +915,13 @@ public final class FormulaSheet {
             }
             switch (sign) {
                 case '+':
-                    return orBad(left + right);
+                    return left + right;
                 case '-':
-                    return orBad(left - right);
+                    return left - right;
                 case '*':
-                    return orBad(left * right);
+                    return left * right;
                 case '/':
-                    return right == 0 ? BAD : orBad(left / right);
+                    return right == 0 ? BAD : left / right;
                 default:
                     return holds(left, right) ? 1 : 0;
             }
