@@ -2,6 +2,14 @@ import java.util.function.Supplier;
 
 /** A sheet whose cells are named as they are written (b3 is column 1, row 2) and whose answers are texts. */
 final class Probe {
+    static final String OUT = "throws.IndexOutOfBoundsException";
+    static final String REFUSED = "throws.IllegalArgumentException";
+    static final String NOT_NOW = "throws.IllegalStateException";
+    static final String NOTHING = "throws.NoSuchElementException";
+    static final String BAD = "throws.ArithmeticException";
+    static final String NO_FORMULA = "throws.UnsupportedOperationException";
+    static final double LIMIT = 1L << 50;
+
     final FormulaSheet sheet = new FormulaSheet();
 
     static int column(String cell) {
@@ -10,6 +18,11 @@ final class Probe {
 
     static int row(String cell) {
         return Integer.parseInt(cell.substring(1)) - 1;
+    }
+
+    /** A cell's name: 0, 9 is a10. */
+    static String name(int column, int row) {
+        return "abcdefgh".charAt(column) + "" + (row + 1);
     }
 
     static String answer(Supplier<Object> call) {

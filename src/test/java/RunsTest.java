@@ -1,7 +1,10 @@
 import java.util.Random;
 import java.util.Set;
 
-/** Long runs of calls, the same ones each time, on the class and on the model beside it. */
+/**
+ * Long runs of calls, the same ones each time, on the class and on the model beside it. They go on beyond the
+ * 512 calls that the document promises, to see all cells after each change: the class does not count its calls.
+ */
 public final class RunsTest {
     private static final int RUNS = 120;
     private static final int CHANGES = 60;
