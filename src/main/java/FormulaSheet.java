@@ -193,6 +193,31 @@ public final class FormulaSheet {
         return number > LIMIT || number < -LIMIT;
     }
 
+    private static boolean isNaN(double number) {
+        return number != number;
+    }
+
+    // put takes NaN, which lies neither above nor below the limits, and Java's arithmetic hands it on. Here
+    // it goes by, for LANGUAGE.md wants no operation that answers it.
+    private static double workedOut(double left, char sign, double right) {
+        if (isBad(left) || isBad(right) || sign == '/' && right == 0) {
+            return BAD;
+        }
+        if (isNaN(left) || isNaN(right)) {
+            return isNaN(left) ? left : right;
+        }
+        switch (sign) {
+            case '+':
+                return left + right;
+            case '-':
+                return left - right;
+            case '*':
+                return left * right;
+            default:
+                return left / right;
+        }
+    }
+
     /** A set of cells, held in bits so that many sets are joined fast and without new objects. */
     private static final class CellSet {
         private long low;
@@ -866,10 +891,10 @@ public final class FormulaSheet {
             if (isBad(number)) {
                 return BAD;
             }
-            if (sign == '-') {
-                return -number;
+            if (sign == '!') {
+                return number == 0 ? 1 : 0;
             }
-            return number == 0 ? 1 : 0;
+            return isNaN(number) ? number : -number;
         }
 
         void writeBare(StringBuilder out) {
@@ -910,21 +935,14 @@ public final class FormulaSheet {
         double worth(Cells cells) {
             double left = inner[0].worth(cells);
             double right = inner[1].worth(cells);
+            int rule = rule();
+            if (rule == TERMS || rule == PRODUCT) {
+                return workedOut(left, sign, right);
+            }
             if (isBad(left) || isBad(right)) {
                 return BAD;
             }
-            switch (sign) {
-                case '+':
-                    return left + right;
-                case '-':
-                    return left - right;
-                case '*':
-                    return left * right;
-                case '/':
-                    return right == 0 ? BAD : left / right;
-                default:
-                    return holds(left, right) ? 1 : 0;
-            }
+            return holds(left, right) ? 1 : 0;
         }
 
         private boolean holds(double left, double right) {
@@ -1091,10 +1109,11 @@ public final class FormulaSheet {
             if (name == Name.CNT) {
                 return many;
             }
-            if (name == Name.SUM) {
-                return sum(cells.gathered, many);
+            if (name == Name.MIN || name == Name.MAX) {
+                return extreme(cells.gathered, many);
             }
-            return name == Name.AVG ? average(cells.gathered, many) : extreme(cells.gathered, many);
+            double sum = sum(cells.gathered, many);
+            return name == Name.SUM ? sum : workedOut(sum, '/', many);
         }
 
         // Column by column, in each from the least row: the order in which a sum must be made.
@@ -1112,23 +1131,13 @@ public final class FormulaSheet {
             return many;
         }
 
+        // A sum that is BAD once stays so, as does one with a BAD number in it.
         private static double sum(double[] numbers, int many) {
             double sum = 0;
             for (int i = 0; i < many; i++) {
-                if (isBad(numbers[i])) {
-                    return BAD;
-                }
-                sum = sum + numbers[i];
-                if (isBad(sum)) {
-                    return BAD;
-                }
+                sum = workedOut(sum, '+', numbers[i]);
             }
             return sum;
-        }
-
-        private static double average(double[] numbers, int many) {
-            double sum = sum(numbers, many);
-            return many == 0 || isBad(sum) ? BAD : sum / many;
         }
 
         private double extreme(double[] numbers, int many) {

@@ -55,7 +55,7 @@ public final class FormulaBoundariesTest {
     private static void taken(String line, Object cells) {
         Probe p = new Probe();
         due("'" + line + "' is entered", p.enter("d4", line), cells);
-        due("errorAt of '" + line + "'", p.sheet.errorAt(), -1);
+        due("errorAt of '" + line + "'", p.errorAt(), -1);
         due("the line behind '" + line + "'", p.count(0), 0);
         due("formulas with '" + line + "'", p.count(2), 1);
     }
@@ -67,7 +67,7 @@ public final class FormulaBoundariesTest {
     private static void refused(String line, int at) {
         Probe p = new Probe();
         due("'" + line + "' is entered", p.enter("d4", line), REFUSED);
-        due("errorAt of '" + line + "'", p.sheet.errorAt(), at);
+        due("errorAt of '" + line + "'", p.errorAt(), at);
         due("the line behind '" + line + "'", p.count(0), 0);
         due("cells after '" + line + "'", p.count(1), 0);
     }
@@ -476,30 +476,30 @@ public final class FormulaBoundariesTest {
     // IndexOutOfBoundsException leaves it).
     private static void errorAtAsTimeGoes() {
         Probe p = new Probe();
-        due("none was refused so far", p.sheet.errorAt(), -1);
+        due("none was refused so far", p.errorAt(), -1);
         p.enter("a1", "1");
-        due("none was refused still", p.sheet.errorAt(), -1);
+        due("none was refused still", p.errorAt(), -1);
         p.type("1+").enter("i1");
-        due("an enter outside refuses no line", p.sheet.errorAt(), -1);
+        due("an enter outside refuses no line", p.errorAt(), -1);
         p.enter("a1");
-        due("the line is refused then", p.sheet.errorAt(), 2);
-        due("it is told again", p.sheet.errorAt(), 2);
+        due("the line is refused then", p.errorAt(), 2);
+        due("it is told again", p.errorAt(), 2);
         p.type("7").enter("a11");
-        due("an enter outside leaves it", p.sheet.errorAt(), 2);
+        due("an enter outside leaves it", p.errorAt(), 2);
         due("and the line", p.count(0), 1);
         p.enter("a1");
-        due("entered since", p.sheet.errorAt(), -1);
+        due("entered since", p.errorAt(), -1);
         p.enter("a1", "(1");
         p.enter("b1", "1+(2");
-        due("the one refused last", p.sheet.errorAt(), 4);
+        due("the one refused last", p.errorAt(), 4);
         p.enter("b1", "x");
-        due("the one refused last, at 0", p.sheet.errorAt(), 0);
+        due("the one refused last, at 0", p.errorAt(), 0);
         p.enter("b1");
-        due("an empty one refused last", p.sheet.errorAt(), 0);
+        due("an empty one refused last", p.errorAt(), 0);
         p.enter("b1", "1");
-        due("entered since, again", p.sheet.errorAt(), -1);
-        due("the same object", p.enter("b1") + p.sheet.errorAt(), REFUSED + 0);
-        due("and another", new Probe().sheet.errorAt(), -1);
+        due("entered since, again", p.errorAt(), -1);
+        due("the same object", p.enter("b1") + p.errorAt(), REFUSED + 0);
+        due("and another", new Probe().errorAt(), -1);
     }
 
     private static void errorAtIsLeftByAllElse() {
@@ -525,7 +525,7 @@ public final class FormulaBoundariesTest {
         p.text("a1");
         p.reaches("b1", "a1");
         p.count(3);
-        due("all other calls leave errorAt", p.sheet.errorAt(), 2);
+        due("all other calls leave errorAt", p.errorAt(), 2);
     }
 
     private static void aLineIsReadFromItsOwnBeginning() {

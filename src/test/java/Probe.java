@@ -10,7 +10,24 @@ final class Probe {
     static final String NO_FORMULA = "throws.UnsupportedOperationException";
     static final double LIMIT = 1L << 50;
 
-    final FormulaSheet sheet = new FormulaSheet();
+    /** An object is used for at most so many calls; what later ones answer is free. */
+    private static final int MOST_CALLS = 512;
+
+    private final FormulaSheet sheet = new FormulaSheet();
+    private int calls;
+
+    /** The sheet for one call: a test that goes beyond those that are promised is at fault itself. */
+    FormulaSheet sheet() {
+        calls++;
+        if (calls > MOST_CALLS) {
+            throw new AssertionError("a test makes more than 512 calls of one object");
+        }
+        return sheet;
+    }
+
+    int callsLeft() {
+        return MOST_CALLS - calls;
+    }
 
     static int column(String cell) {
         return cell.charAt(0) - 'a';
@@ -35,83 +52,87 @@ final class Probe {
 
     Probe type(String line) {
         for (int i = 0; i < line.length(); i++) {
-            sheet.type(line.charAt(i));
+            sheet().type(line.charAt(i));
         }
         return this;
     }
 
     String typeOne(int c) {
-        return answer(() -> sheet.type(c));
+        return answer(() -> sheet().type(c));
     }
 
     String enter(String cell) {
-        return answer(() -> sheet.enter(column(cell), row(cell)));
+        return answer(() -> sheet().enter(column(cell), row(cell)));
     }
 
     String enter(String cell, String line) {
         return type(line).enter(cell);
     }
 
+    int errorAt() {
+        return sheet().errorAt();
+    }
+
     /** Where a line is refused; -1 if it is taken. */
     int refused(String line) {
         enter("h10", line);
-        return sheet.errorAt();
+        return errorAt();
     }
 
     String put(String cell, double number) {
         return answer(() -> {
-            sheet.put(column(cell), row(cell), number);
+            sheet().put(column(cell), row(cell), number);
             return "";
         });
     }
 
     String erase(String cell) {
         return answer(() -> {
-            sheet.erase(column(cell), row(cell));
+            sheet().erase(column(cell), row(cell));
             return "";
         });
     }
 
     String copy(String cell, String to) {
-        return answer(() -> sheet.copy(column(cell), row(cell), column(to), row(to)));
+        return answer(() -> sheet().copy(column(cell), row(cell), column(to), row(to)));
     }
 
     String insert(int row) {
-        return answer(() -> sheet.insert(row));
+        return answer(() -> sheet().insert(row));
     }
 
     String delete(int row) {
-        return answer(() -> sheet.delete(row));
+        return answer(() -> sheet().delete(row));
     }
 
     String value(String cell) {
-        return answer(() -> sheet.value(column(cell), row(cell)));
+        return answer(() -> sheet().value(column(cell), row(cell)));
     }
 
     String kind(String cell) {
-        return answer(() -> sheet.kind(column(cell), row(cell)));
+        return answer(() -> sheet().kind(column(cell), row(cell)));
     }
 
     String reaches(String cell, String to) {
-        return answer(() -> sheet.reaches(column(cell), row(cell), column(to), row(to)));
+        return answer(() -> sheet().reaches(column(cell), row(cell), column(to), row(to)));
     }
 
     int count(int what) {
-        return sheet.count(what);
+        return sheet().count(what);
     }
 
     String character(String cell, int i) {
-        return answer(() -> sheet.text(column(cell), row(cell), i));
+        return answer(() -> sheet().text(column(cell), row(cell), i));
     }
 
     /** The whole text of a cell's formula. */
     String text(String cell) {
         return answer(() -> {
             StringBuilder all = new StringBuilder();
-            int c = sheet.text(column(cell), row(cell), 0);
+            int c = sheet().text(column(cell), row(cell), 0);
             for (int i = 1; c >= 0; i++) {
                 all.append((char) c);
-                c = sheet.text(column(cell), row(cell), i);
+                c = sheet().text(column(cell), row(cell), i);
             }
             return all;
         });

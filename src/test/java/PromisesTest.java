@@ -1,6 +1,3 @@
-import java.util.ArrayList;
-import java.util.List;
-
 /** For each promise of the document ordinary inputs, the edges that it names, and wrong inputs. */
 public final class PromisesTest {
     private static final double LIMIT = Probe.LIMIT;
@@ -25,6 +22,8 @@ public final class PromisesTest {
         promise10Value();
         promise10ValueOfRanges();
         promise10ValueOfCells();
+        promise10ValueOfNaN();
+        noOperationAnswersNaN();
         promise11Kind();
         promise12Text();
         promise13Reaches();
@@ -45,10 +44,10 @@ public final class PromisesTest {
         }
         for (int column = 0; column < 8; column++) {
             for (int row = 0; row < 10; row++) {
-                due("1: kind of a new cell", p.sheet.kind(column, row), 0);
+                due("1: kind of a new cell", p.sheet().kind(column, row), 0);
             }
         }
-        due("1: errorAt", p.sheet.errorAt(), -1);
+        due("1: errorAt", p.errorAt(), -1);
         Probe other = new Probe();
         other.put("a1", 1);
         other.type("a1");
@@ -177,13 +176,13 @@ public final class PromisesTest {
         due("4: all fixed", new Probe().refused("$a$1"), -1);
 
         p.refused("1+");
-        due("4: asked again", p.sheet.errorAt(), 2);
+        due("4: asked again", p.errorAt(), 2);
         p.type("1").enter("i1");
-        due("4: outside leaves it", p.sheet.errorAt(), 2);
+        due("4: outside leaves it", p.errorAt(), 2);
         p.put("a1", 3);
-        due("4: put leaves it", p.sheet.errorAt(), 2);
+        due("4: put leaves it", p.errorAt(), 2);
         p.enter("a1");
-        due("4: entered since", p.sheet.errorAt(), -1);
+        due("4: entered since", p.errorAt(), -1);
     }
 
     private static void promise5Put() {
@@ -496,26 +495,64 @@ public final class PromisesTest {
         p.erase("b1");
         due("10: the circle is cut", p.value("c1"), 1.0);
 
-        Probe chain = new Probe();
-        String below = null;
-        for (String cell : allCells()) {
-            chain.enter(cell, below == null ? "1" : below + "+" + below + "-" + below + "+1");
-            below = cell;
-        }
+        Probe chain = chainThroughAllCells();
         due("10: through all cells", chain.value("h10"), 80.0);
         due("10: through all cells, the other end", chain.value("a1"), 1.0);
         chain.enter("a1", "h10");
         due("10: one great circle", chain.value("d5"), NOT_NOW);
     }
 
-    private static List<String> allCells() {
-        List<String> all = new ArrayList<>();
-        for (char column = 'a'; column <= 'h'; column++) {
-            for (int row = 1; row <= 10; row++) {
-                all.add(column + "" + row);
+    /** Each cell refers three times to the one before: above it, or at the foot of the column before. */
+    private static Probe chainThroughAllCells() {
+        Probe chain = new Probe();
+        chain.enter("a2", "a1+a1-a1+1");
+        chain.enter("b1", "a10+a10-a10+1");
+        for (int column = 0; column < 8; column++) {
+            chain.copy("b1", Probe.name(column, 0));
+            for (int row = 1; row < 10; row++) {
+                chain.copy("a2", Probe.name(column, row));
             }
         }
-        return all;
+        chain.enter("a1", "1");
+        return chain;
+    }
+
+    // LANGUAGE.md, rule 3: no operation on doubles may answer NaN. Any operation alters the bits of this one, so
+    // that NaN which has them still was handed on as it is.
+    private static void noOperationAnswersNaN() {
+        double marked = Double.longBitsToDouble(0x7ff0000000000001L);
+        Probe p = new Probe();
+        p.put("a1", marked);
+        for (String line : new String[] {"a1", "a1+1", "1+a1", "a1-1", "1-a1", "a1*2", "0*a1", "a1/2", "0/a1", "-a1",
+            "-(1-a1)", "@abs(a1)", "@if(1,a1,2)", "@sum(a1:b2)", "@avg(a1:b2)", "@min(a1:b2)", "@max(a1:b2)"}) {
+            p.enter("h10", line);
+            long bits = Double.doubleToRawLongBits(p.sheet().value(7, 9));
+            due("NaN is handed on in " + line, Long.toHexString(bits), "7ff0000000000001");
+        }
+    }
+
+    // What lies neither above 2^50 nor below -2^50 is a NUMBER, and all doubles are worked with as Java's.
+    private static void promise10ValueOfNaN() {
+        Probe p = new Probe();
+        due("5: NaN is neither above nor below", p.put("a1", Double.NaN), "");
+        due("10: NaN", p.value("a1"), Double.NaN);
+        due("11: NaN is a number", p.kind("a1"), 1);
+        for (String line : new String[] {"a1", "a1+1", "1-a1", "a1*0", "0/a1", "a1/2", "-a1", "@abs(a1)",
+            "@if(a1,a1,1)", "@sum(a1:a2)", "@avg(a1:a2)", "a1+a1"}) {
+            due("10: NaN in " + line, p.worth(line), Double.NaN);
+            due("11: NaN in " + line, p.kind("h10"), 2);
+        }
+        due("14: NaN is not BAD", p.count(4), 0);
+        due("10: NaN equals nothing", p.worth("a1=a1|a1<0|a1>0"), 0.0);
+        due("10: NaN is other than all", p.worth("a1#a1&a1&!(!a1)"), 1.0);
+        due("10: NaN divided by 0", p.worth("a1/0"), BAD);
+        p.enter("a3", "1/0");
+        due("10: BAD behind NaN", p.worth("a1+a3"), BAD);
+        due("10: NaN behind BAD", p.worth("a3*a1"), BAD);
+        due("10: BAD behind NaN in a sum", p.worth("@sum(a1:a3)"), BAD);
+        due("10: BAD behind NaN in avg", p.worth("@avg(a1:a3)"), BAD);
+        due("7: NaN copied", p.copy("a1", "b2"), 0);
+        due("10: NaN as it is copied", p.value("b2"), Double.NaN);
     }
 
     private static void promise11Kind() {
@@ -700,6 +737,6 @@ public final class PromisesTest {
         due("the cells stay", p.count(1), 2);
         due("the text stays", p.text("a1"), "b1+1");
         due("the value stays", p.value("a1"), 3.0);
-        due("errorAt stays", p.sheet.errorAt(), -1);
+        due("errorAt stays", p.errorAt(), -1);
     }
 }

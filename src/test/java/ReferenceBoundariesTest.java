@@ -86,7 +86,7 @@ public final class ReferenceBoundariesTest {
                 int row = 5 + to % 10 - from % 10;
                 boolean inside = column >= 0 && column <= 7 && row >= 0 && row <= 9;
                 String what = "e6 from cell " + from + " to cell " + to;
-                due(what, p.sheet.copy(from / 10, from % 10, to / 10, to % 10), inside ? 0 : 1);
+                due(what, p.sheet().copy(from / 10, from % 10, to / 10, to % 10), inside ? 0 : 1);
                 due("text of " + what, p.text(Probe.name(to / 10, to % 10)), inside ? Probe.name(column, row) : "~");
             }
         }
@@ -245,13 +245,13 @@ public final class ReferenceBoundariesTest {
         due("insert in an empty sheet", new Probe().insert(0), 0);
         Probe last = new Probe();
         for (int column = 0; column < 8; column++) {
-            last.sheet.put(column, 9, 1);
+            last.sheet().put(column, 9, 1);
         }
         due("a full last row", last.insert(9), 8);
         due("nothing is left of it", last.count(1), 0);
         Probe above = new Probe();
         for (int column = 0; column < 8; column++) {
-            above.sheet.put(column, 8, 1);
+            above.sheet().put(column, 8, 1);
         }
         due("a full row before the last", above.insert(9), 0);
         due("a row before the last goes down", above.insert(8), 0);
@@ -388,7 +388,7 @@ public final class ReferenceBoundariesTest {
         for (int row : new int[] {0, 9}) {
             Probe p = new Probe();
             for (int column = 0; column < 8; column++) {
-                p.sheet.put(column, row, 1);
+                p.sheet().put(column, row, 1);
             }
             due("an empty row beside " + row, p.delete(5), 0);
             due("a full row " + row, p.delete(row == 9 ? 8 : 0), 8);
@@ -543,7 +543,7 @@ public final class ReferenceBoundariesTest {
             for (int column = 0; column < 8; column++) {
                 for (int row = 0; row < 10; row++) {
                     boolean inside = column >= 2 && column <= 4 && row >= 2 && row <= 4;
-                    due(range + " reaches " + column + ", " + row, p.sheet.reaches(0, 0, column, row), inside);
+                    due(range + " reaches " + column + ", " + row, p.sheet().reaches(0, 0, column, row), inside);
                 }
             }
         }

@@ -1,22 +1,30 @@
+import java.util.ArrayList;
+import java.util.List;
 import java.util.Random;
 import java.util.Set;
+import java.util.function.Function;
 
 /**
- * Long runs of calls, the same ones each time, on the class and on the model beside it. They go on beyond the
- * 512 calls that the document promises, to see all cells after each change: the class does not count its calls.
+ * Runs of calls, the same ones each time, on the class and on the model beside it; all cells are compared after
+ * each change. An object answers for 512 calls alone: when they are used up, the changes are made again on a
+ * new one, which then tells of the next cells.
  */
 public final class RunsTest {
-    private static final int RUNS = 120;
-    private static final int CHANGES = 60;
+    private static final int RUNS = 160;
+    private static final int MOST_FOR_CHANGES = 380;
+    private static final int MOST_FOR_A_CHANGE = 41;
+    private static final int MOST_FOR_A_CELL = 90;
     private static final double[] NUMBERS = {0, 1, -1, 2.5, 1e9, 1L << 50, -(1L << 50), 0.1, -7};
 
     private final Random random;
     private final Lines lines;
     private final int columns;
     private final int rows;
-    private final Probe probe = new Probe();
     private final Model model = new Model();
+    private final List<Function<Probe, String>> changes = new ArrayList<>();
     private final StringBuilder log = new StringBuilder();
+    private Probe probe = new Probe();
+    private int usedForChanges = 0;
 
     private RunsTest(int seed) {
         random = new Random(seed);
@@ -33,7 +41,7 @@ public final class RunsTest {
     }
 
     private void run() {
-        for (int i = 0; i < CHANGES && Check.wrongSoFar() == 0; i++) {
+        while (usedForChanges + MOST_FOR_A_CHANGE <= MOST_FOR_CHANGES && Check.wrongSoFar() == 0) {
             change();
             model.forget();
             compareAll();
@@ -41,6 +49,22 @@ public final class RunsTest {
         if (Check.wrongSoFar() > 0) {
             System.out.println("after" + log);
         }
+    }
+
+    private void keepCalls(int needed) {
+        if (probe.callsLeft() < needed) {
+            probe = new Probe();
+            changes.forEach(change -> change.apply(probe));
+        }
+    }
+
+    private String changed(Function<Probe, String> change) {
+        keepCalls(MOST_FOR_A_CHANGE);
+        int before = probe.callsLeft();
+        String answer = change.apply(probe);
+        usedForChanges += before - probe.callsLeft();
+        changes.add(change);
+        return answer;
     }
 
     private void due(String call, Object got, Object want) {
@@ -63,7 +87,7 @@ public final class RunsTest {
         } else if (way < 12) {
             double number = NUMBERS[random.nextInt(NUMBERS.length)];
             log.append(" put ").append(name(cell)).append(' ').append(number);
-            due("put", probe.put(name(cell), number), "");
+            due("put", changed(p -> p.put(name(cell), number)), "");
             model.cells[cell / 10][cell % 10] = number;
         } else if (way < 13) {
             erase(cell);
@@ -73,13 +97,14 @@ public final class RunsTest {
             int row = 9 - random.nextInt(rows);
             boolean in = random.nextInt(2) == 0;
             log.append(in ? " insert " : " delete ").append(row);
-            due(log.toString(), in ? probe.insert(row) : probe.delete(row), in ? model.insert(row) : model.delete(row));
+            String answer = changed(p -> in ? p.insert(row) : p.delete(row));
+            due(in ? "insert" : "delete", answer, in ? model.insert(row) : model.delete(row));
         }
     }
 
     private void enter(int cell, String line) {
         log.append(" enter ").append(name(cell)).append(' ').append(line);
-        String got = probe.enter(name(cell), line);
+        String got = changed(p -> p.enter(name(cell), line));
         model.cells[cell / 10][cell % 10] = Model.parse(line);
         due("enter " + line, got, model.referred(cell).size());
     }
@@ -87,7 +112,7 @@ public final class RunsTest {
     private void erase(int cell) {
         log.append(" erase ").append(name(cell));
         boolean empty = model.cells[cell / 10][cell % 10] == null;
-        due("erase", probe.erase(name(cell)), empty ? "throws.NoSuchElementException" : "");
+        due("erase", changed(p -> p.erase(name(cell))), empty ? "throws.NoSuchElementException" : "");
         model.cells[cell / 10][cell % 10] = null;
     }
 
@@ -102,7 +127,7 @@ public final class RunsTest {
         if (content != null) {
             model.cells[to / 10][to % 10] = content;
         }
-        due("copy", probe.copy(name(cell), name(to)), want);
+        due("copy", changed(p -> p.copy(name(cell), name(to))), want);
     }
 
     private void compareAll() {
@@ -114,6 +139,7 @@ public final class RunsTest {
             counts[3] += kind == 4 ? 1 : 0;
             counts[4] += kind > 2 ? 1 : 0;
         }
+        keepCalls(counts.length + 1);
         for (int what = 0; what < counts.length; what++) {
             due("count " + what, probe.count(what), counts[what]);
         }
@@ -125,6 +151,7 @@ public final class RunsTest {
         String name = name(cell);
         Object content = model.cells[cell / 10][cell % 10];
         Set<Integer> reached = model.reached(cell);
+        keepCalls(MOST_FOR_A_CELL);
         for (int i = 0; i < 3; i++) {
             int to = anyCell();
             due("reaches " + name + " " + name(to), probe.reaches(name, name(to)), reached.contains(to));

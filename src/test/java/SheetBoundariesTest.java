@@ -131,15 +131,15 @@ public final class SheetBoundariesTest {
     private static void lettersAndRowsAsWritten() {
         for (int[] corner : CORNERS) {
             Probe p = new Probe();
-            p.sheet.put(corner[0], corner[1], 6);
+            p.sheet().put(corner[0], corner[1], 6);
             String name = Probe.name(corner[0], corner[1]);
             due("the cell written " + name, p.enter("e5", name) + " " + p.value("e5"), "1 6.0");
-            due("the cell written " + name + " is reached", p.sheet.reaches(4, 4, corner[0], corner[1]), true);
+            due("the cell written " + name + " is reached", p.sheet().reaches(4, 4, corner[0], corner[1]), true);
         }
         for (int column = 0; column < 8; column++) {
             for (int row = 0; row < 10; row++) {
                 Probe p = new Probe();
-                p.sheet.put(column, row, 6);
+                p.sheet().put(column, row, 6);
                 String name = Probe.name(column, row);
                 String from = name.equals("e5") ? "e6" : "e5";
                 p.enter(from, name);
@@ -196,7 +196,7 @@ public final class SheetBoundariesTest {
 
     /** All that calls tell of a sheet; what stands in THE LINE is told by entering it, last of all. */
     private static String state(Probe p) {
-        StringBuilder all = new StringBuilder("errorAt ").append(p.sheet.errorAt());
+        StringBuilder all = new StringBuilder("errorAt ").append(p.errorAt());
         all.append(" length ").append(p.count(0)).append(cells(p));
         p.enter("g9");
         return all.append(" line ").append(p.text("g9")).toString();
@@ -220,7 +220,7 @@ public final class SheetBoundariesTest {
 
     private static void throwsAndLeaves(String what, String thrown, Call call) {
         Probe p = sample();
-        answers(what, p.sheet, thrown, call);
+        answers(what, p.sheet(), thrown, call);
         due("what is left by " + what, state(p), state(sample()));
     }
 
@@ -264,7 +264,7 @@ public final class SheetBoundariesTest {
         for (String cell : new String[] {"a1", "b1", "c1", "d1", "a2", "f6", "h10"}) {
             Probe p = sample().type("+");
             due("no formula for " + cell, p.enter(cell), REFUSED);
-            due("errorAt is set", p.sheet.errorAt(), 5);
+            due("errorAt is set", p.errorAt(), 5);
             due("the line is empty", p.count(0), 0);
             due("no cell is changed by one for " + cell, cells(p), cells(sample()));
         }
@@ -273,7 +273,7 @@ public final class SheetBoundariesTest {
     // FormulaSheet(): An empty sheet, an empty LINE.
     private static void newObject() {
         Probe p = new Probe();
-        due("errorAt of a new object", p.sheet.errorAt(), -1);
+        due("errorAt of a new object", p.errorAt(), -1);
         for (int column = 0; column < 8; column++) {
             for (int row = 0; row < 10; row++) {
                 String name = Probe.name(column, row);
